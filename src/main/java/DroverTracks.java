@@ -22,13 +22,13 @@ public final class DroverTracks {
     private static final int NUMBERS_OF_COMMAND = 3;
 
     /** The letter of a command names its kind of change, for the methods too. */
-    private static final char BUILD = 'f';
-    private static final char LAY = 'l';
-    private static final char GIVE_UP = 'c';
-    private static final char ROOT = 'r';
-    private static final char EXPOSE = 'e';
-    private static final char CHARGE = 't';
-    private static final char DRIVE = 'd';
+    private static final int BUILD = 'f';
+    private static final int LAY = 'l';
+    private static final int GIVE_UP = 'c';
+    private static final int ROOT = 'r';
+    private static final int EXPOSE = 'e';
+    private static final int CHARGE = 't';
+    private static final int DRIVE = 'd';
 
     private static final int OUT_OF_RANGE = 1;
     private static final int TOO_MANY_FARMS = 2;
@@ -430,10 +430,10 @@ public final class DroverTracks {
 
     private int farthestFrom(int farm) {
         int farthest = farm;
-        int most = NONE;
+        int most = 0;
         for (int other = 0; other < country.farms(); other++) {
             way.follow(country, farm, other);
-            // Farms of unlike trees have a way without farms, which is never the longer one.
+            // The way to a farm of an unlike tree has no farms, and so never more tracks.
             if (way.tracks() > most) {
                 most = way.tracks();
                 farthest = other;
@@ -499,7 +499,7 @@ public final class DroverTracks {
 
     // Carrying out changes, as methods and as commands
 
-    private int change(char kind, int first, int second, int third) {
+    private int change(int kind, int first, int second, int third) {
         if (isRefused(kind, first, second, third)) {
             refusal.keepCommand(0);
             throw new UnsupportedOperationException("the change is refused");
@@ -526,7 +526,7 @@ public final class DroverTracks {
         return true;
     }
 
-    private boolean isRefused(char kind, int first, int second, int third) {
+    private boolean isRefused(int kind, int first, int second, int third) {
         switch (kind) {
             case BUILD:
                 return refusesToBuild(first);
@@ -545,7 +545,7 @@ public final class DroverTracks {
         }
     }
 
-    private int carryOut(char kind, int first, int second, int third) {
+    private int carryOut(int kind, int first, int second, int third) {
         switch (kind) {
             case BUILD:
                 return country.build(first);
@@ -717,8 +717,6 @@ public final class DroverTracks {
             parents = new int[MOST_FARMS];
             preferred = new int[MOST_FARMS];
             droverFarms = new int[DROVERS];
-            Arrays.fill(parents, NONE);
-            Arrays.fill(preferred, NONE);
             Arrays.fill(droverFarms, NONE);
         }
 
@@ -807,7 +805,14 @@ public final class DroverTracks {
         }
 
         int treeSizeOf(int farm) {
-            return behindOf(rootOf(farm));
+            int root = rootOf(farm);
+            int joined = 0;
+            for (int other = 0; other < farms; other++) {
+                if (rootOf(other) == root) {
+                    joined++;
+                }
+            }
+            return joined;
         }
 
         boolean areJoined(int one, int other) {
@@ -1079,7 +1084,7 @@ public final class DroverTracks {
         private final char[] characters;
         private int length;
         private int position;
-        private char kind;
+        private int kind;
         private final int[] numbers;
         private int numbersRead;
         private int sign;
@@ -1112,7 +1117,7 @@ public final class DroverTracks {
             return position;
         }
 
-        char kind() {
+        int kind() {
             return kind;
         }
 
@@ -1164,7 +1169,7 @@ public final class DroverTracks {
         }
 
         /** What follows the letter: a digit stands for a number of at most so many digits, "+" for either sign. */
-        private static String shapeOf(char letter) {
+        private static String shapeOf(int letter) {
             switch (letter) {
                 case BUILD:
                     return "3";
