@@ -1,5 +1,3 @@
-import java.lang.reflect.InvocationTargetException;
-import java.lang.reflect.Method;
 import java.util.ArrayList;
 import java.util.List;
 
@@ -22,11 +20,8 @@ public final class ModelTest {
 
     private static long seed;
 
-    private final DroverTracks program = new DroverTracks();
-    private final Model model = new Model();
-    private final StringBuilder made = new StringBuilder();
+    private final Pair pair = new Pair();
     private int left = CALLS;
-    private boolean isAlike = true;
 
     public static void main(String[] args) throws ReflectiveOperationException {
         List<String[]> calls = new ArrayList<>();
@@ -40,10 +35,10 @@ public final class ModelTest {
             seed = run * 7919L + 1;
             ModelTest test = new ModelTest();
             test.build(run);
-            while (test.left > 0 && test.isAlike) {
+            while (test.left > 0 && test.pair.isAlike()) {
                 test.step(calls.get(draw(calls.size())));
             }
-            Check.due("run " + run + ":" + test.made, true, test.isAlike);
+            test.pair.check("run " + run);
         }
         Check.end("ModelTest");
     }
@@ -96,7 +91,7 @@ public final class ModelTest {
     }
 
     private int aFarm() {
-        int farms = model.account(0);
+        int farms = pair.farms();
         return farms == 0 || oneIn(40) ? -1 + draw(14) : draw(farms);
     }
 
@@ -152,29 +147,9 @@ public final class ModelTest {
     }
 
     private void call(String name, Object... numbers) throws ReflectiveOperationException {
-        if (left == 0 || !isAlike) {
-            return;
-        }
-        left--;
-        String due = answer(model, name, numbers);
-        String got = answer(program, name, numbers);
-        made.append(' ').append(name).append(List.of(numbers)).append('=').append(got);
-        if (!due.equals(got)) {
-            made.append(", due is ").append(due);
-            isAlike = false;
-        }
-    }
-
-    private static String answer(Object owner, String name, Object[] numbers) throws ReflectiveOperationException {
-        Class<?>[] types = new Class<?>[numbers.length];
-        for (int i = 0; i < types.length; i++) {
-            types[i] = numbers[i] instanceof Character ? char.class : int.class;
-        }
-        Method method = owner.getClass().getMethod(name, types);
-        try {
-            return method.invoke(owner, numbers).toString();
-        } catch (InvocationTargetException e) {
-            return e.getCause().getClass().getSimpleName();
+        if (left > 0 && pair.isAlike()) {
+            left--;
+            pair.call(name, numbers);
         }
     }
 }
